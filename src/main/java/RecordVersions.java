@@ -55,7 +55,7 @@ public final class RecordVersions {
         changedPages[transaction] = 0;
         memory.states[transaction] = ACTIVE;
         store.changed(STATES_PAGE);
-        return store.put(STATES_PAGE) ? transaction : CRASHED;
+        return store.put(STATES_PAGE, 0) ? transaction : CRASHED;
     }
 
     public int read(int transaction, int record)
@@ -93,7 +93,7 @@ public final class RecordVersions {
         }
         memory.states[transaction] = COMMITTED;
         store.changed(STATES_PAGE);
-        return store.put(STATES_PAGE) ? store.written - writtenBefore : CRASHED;
+        return store.put(STATES_PAGE, 0) ? store.written - writtenBefore : CRASHED;
     }
 
     public int rollback(int transaction) throws IllegalStateException {
@@ -368,11 +368,13 @@ public final class RecordVersions {
                 System.arraycopy(from.states, 0, states, 0, TRANSACTIONS + 1);
                 return;
             }
-            for (int place = 0; place < PLACES; place++) {
-                if (pageOf(place) == page) {
-                    fill(place, from.owners[place], from.values[place], from.links[place]);
-                }
-            }
+            int first = page < FIRST_SLOT_PAGE
+                    ? page * RECORDS_A_PAGE
+                    : RECORDS + (page - FIRST_SLOT_PAGE) * SLOTS_A_PAGE;
+            int many = page < FIRST_SLOT_PAGE ? RECORDS_A_PAGE : SLOTS_A_PAGE;
+            System.arraycopy(from.owners, first, owners, first, many);
+            System.arraycopy(from.values, first, values, first, many);
+            System.arraycopy(from.links, first, links, first, many);
         }
 
         boolean isRolled(int record) {
@@ -398,11 +400,12 @@ public final class RecordVersions {
 
         /** The first place in a record's chain with a version of one of these transactions. */
         int firstOf(long transactions, int record) {
-            for (int k = 0; k < PLACES; k++) {
-                int place = placeAt(record, k);
-                if (place == NOWHERE || has(transactions, owners[place])) {
+            int place = placeAt(record, 0);
+            for (int k = 0; k < PLACES && place != NOWHERE; k++) {
+                if (has(transactions, owners[place])) {
                     return place;
                 }
+                place = next(place);
             }
             return NOWHERE;
         }
@@ -486,49 +489,50 @@ public final class RecordVersions {
             dirty |= 1 << page;
         }
 
-        /** Writes a page; answers false if there was a crash. */
-        boolean put(int page) {
-            return putAt(page, 0);
-        }
-
         /** Writes those of a set of pages that are dirty at their turn; answers false if there was a crash. */
         boolean putDirty(int pages) {
             for (int page = 0; page < PAGES; page++) {
-                if (has(pages & dirty, page) && !put(page)) {
+                if (has(pages & dirty, page) && !put(page, 0)) {
                     return false;
                 }
             }
             return true;
         }
 
-        private boolean putAt(int page, int depth) {
+        /** Writes a page; answers false if there was a crash. */
+        private boolean put(int page, int depth) {
             // No circle is ever noted, so that no way through the notes is longer than the pages are many.
             if (depth >= PAGES) {
                 return true;
             }
             for (int first = 0; first < PAGES; first++) {
-                if (has(earlier[page] & dirty, first) && !putAt(first, depth + 1)) {
+                if (has(earlier[page] & dirty, first) && !put(first, depth + 1)) {
                     return false;
                 }
             }
-            return reachDisk(page);
-        }
-
-        private boolean reachDisk(int page) {
-            if (failure > 0) {
-                failure--;
-                if (failure == 0) {
-                    fall();
-                    return false;
-                }
+            if (failsNow()) {
+                fall();
+                return false;
             }
             disk.takePage(memory, page);
+            settle(page);
+            return true;
+        }
+
+        private boolean failsNow() {
+            if (failure == 0) {
+                return false;
+            }
+            failure--;
+            return failure == 0;
+        }
+
+        private void settle(int page) {
             dirty &= ~(1 << page);
             for (int later = 0; later < PAGES; later++) {
                 earlier[later] &= ~(1 << page);
             }
             written++;
-            return true;
         }
 
         /** Notes that a page must be written before another; answers false if there was a crash. */
@@ -536,7 +540,7 @@ public final class RecordVersions {
             if (first == later) {
                 return true;
             }
-            if (mustPrecede(later, first) && !put(later)) {
+            if (mustPrecede(later, first) && !put(later, 0)) {
                 return false;
             }
             earlier[later] |= 1 << first;

@@ -133,10 +133,11 @@ public final class PromiseTest {
                 "begin = 3; write 3 0 3 = 1; flush = 2; rollback 3 = 1; erase 2 0 = NoSuchElement; version 0 0 0 = 3",
                 "page 10 = 0; write 2 0 2 = UnsupportedOperation; version 0 0 0 = 1; count 0 = 9; page 10 = 1",
                 "page 3 = 1; flush = 3; commit 2 = 1");
-        Script.run("terms: pages that are cleaned are not pages changed by a transaction",
-                "begin = 1; write 1 0 1 = 1; commit 1 = 2; begin = 2; begin = 3; write 3 0 3 = 1; flush = 2",
-                "rollback 3 = 1; begin = 4; write 4 2 4 = 1; flush = 1; begin = 5",
-                "write 4 0 4 = 1; page 0 = 8; count 2 = 11; commit 4 = 3; flush = 0");
+        // Slot 3 becomes free by cleaning, but the change goes to slot 0, which is on another page.
+        Script.run("terms: a page that is cleaned is not one that the transaction changed", "begin = 1",
+                each(0, 3, "write 1 # 1 = 1"), "commit 1 = 3; begin = 2", each(1, 3, "write 2 # 2 = 1"), "commit 2 = 4",
+                "begin = 3; write 3 0 3 = 1; version 0 1 2 = 3; sweep = 3; flush = 4; rollback 3 = 1; begin = 4",
+                "write 4 0 4 = 1; version 0 1 2 = 0; page 14 = 1; page 4 = 1; commit 4 = 3; page 14 = 1; flush = 1");
         Script.run("terms: a failure in cleaning", "begin = 1; write 1 0 1 = 1; commit 1 = 2; begin = 2; write 2 0 2 = 1",
                 "rollback 2 = 1; begin = 3; fail 1 = 0; write 3 0 3 = -9; state 3 = 3; version 0 0 0 = 1; count 0 = 9");
         Script.run("terms: a crash comes before a conflict", "begin = 1; begin = 2; write 1 0 1 = 1; commit 1 = 2",
@@ -180,6 +181,9 @@ public final class PromiseTest {
                 "commit 2 = 2; image 2 = 2; count 2 = 7");
         Script.run("promise 6: a page that it changed and another made dirty again", "begin = 1; begin = 2",
                 "write 1 0 1 = 1; flush = 1; write 2 1 2 = 1; commit 1 = 2; page 10 = 0; commit 2 = 1");
+        Script.run("promise 6: so with the page of a slot", "begin = 1; write 1 0 1 = 1; write 1 2 1 = 1; commit 1 = 3",
+                "begin = 2; begin = 3; write 2 0 2 = 1; flush = 2; write 3 2 3 = 1; page 1 = 8; commit 2 = 2; page 13 = 0",
+                "page 11 = 1; page 1 = 0; commit 3 = 2");
         Script.run("promise 6: pages that were written since are not written again", "begin = 1; write 1 0 1 = 1",
                 "flush = 1; commit 1 = 1; image 0 = 1");
         Script.run("promise 6: a dirty page of the states is written once", "begin = 1; begin = 2; rollback 1 = 1",
