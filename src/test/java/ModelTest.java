@@ -10,33 +10,8 @@ import java.util.Random;
  */
 public final class ModelTest {
     private static final int RUNS = 500;
+    private static final int CALLS = 220;
     private static final int LOOK_EVERY = 5;
-
-    /** Every call that only looks, so that after a change the whole state can be compared. */
-    private static final List<String> LOOKS = looks();
-
-    private static List<String> looks() {
-        List<String> looks = new ArrayList<>();
-        for (int r = 0; r < 6; r++) {
-            looks.add("image " + r);
-            for (int k = 0; k < 5; k++) {
-                for (int what = 0; what < 3; what++) {
-                    looks.add("version " + r + " " + k + " " + what);
-                }
-            }
-        }
-        for (int p = 0; p < 7; p++) {
-            looks.add("page " + p);
-            looks.add("page " + (10 + p));
-        }
-        for (int what = 0; what < 5; what++) {
-            looks.add("count " + what);
-        }
-        for (int t = 1; t <= 40; t++) {
-            looks.add("state " + t);
-        }
-        return looks;
-    }
 
     private static String lot(Random random, List<Integer> begun, int crashiness) {
         int t = begun.isEmpty() || random.nextInt(60) == 0
@@ -68,61 +43,83 @@ public final class ModelTest {
         return "version " + r + " " + (random.nextInt(14) - 2) + " " + (random.nextInt(6) - 1);
     }
 
-    private static boolean sameLooks(RecordVersions store, Model model, List<String> done) {
-        for (String look : LOOKS) {
-            String got = Script.answer(store, look);
-            String want = model.answer(look);
-            if (!got.equals(want)) {
-                Script.due(look + " is " + want + " and not " + got + " after " + done, false);
+    /** A run, with all that is known of it beside the program's own answers. */
+    private static final class Run {
+        final RecordVersions store = new RecordVersions();
+        final Model model = new Model();
+        final List<String> done = new ArrayList<>();
+        final List<Integer> begun = new ArrayList<>();
+        final Map<Integer, String> committed = new HashMap<>();
+        final Map<Integer, Map<Integer, String>> open = new HashMap<>();
+
+        boolean call(String call) {
+            String got = Script.answer(store, call);
+            done.add(call);
+            if (!same(call, got, model.answer(call))) {
                 return false;
             }
+            if (!got.equals("-9") && !got.startsWith("Illegal")) {
+                keep(call.split(" "), got);
+            }
+            return true;
         }
-        return true;
+
+        private void keep(String[] w, String got) {
+            if (w[0].equals("begin")) {
+                begun.add(Integer.parseInt(got));
+                open.put(Integer.parseInt(got), new HashMap<>());
+            } else if ((w[0].equals("write") || w[0].equals("erase")) && got.equals("1")) {
+                open.get(Integer.parseInt(w[1]))
+                        .put(Integer.parseInt(w[2]), w[0].equals("erase") ? "NoSuchElement" : w[3]);
+            } else if (w[0].equals("commit")) {
+                committed.putAll(open.get(Integer.parseInt(w[1])));
+            }
+        }
+
+        private boolean same(String call, String got, String want) {
+            if (!got.equals(want)) {
+                Script.due(call + " is " + want + " and not " + got + " after " + done, false);
+            }
+            return got.equals(want);
+        }
+
+        /** The run is done again on another object, so that no object is asked for more calls than it is good for. */
+        private RecordVersions again() {
+            RecordVersions other = new RecordVersions();
+            for (String call : done) {
+                Script.answer(other, call);
+            }
+            return other;
+        }
+
+        boolean looksTheSame() {
+            RecordVersions other = again();
+            for (String look : Script.LOOKS) {
+                if (!same(look, Script.answer(other, look), model.answer(look))) {
+                    return false;
+                }
+            }
+            return nothingIsLost(other);
+        }
+
+        /** What the store is for: after any call, and any crash, the image is what was committed, no more and no less. */
+        private boolean nothingIsLost(RecordVersions other) {
+            for (int r = 0; r < 6; r++) {
+                String image = "image " + r;
+                if (!same(image, Script.answer(other, image), committed.getOrDefault(r, "NoSuchElement"))) {
+                    return false;
+                }
+            }
+            return true;
+        }
     }
 
     private static boolean runOnce(int seed) {
         Random random = new Random(seed);
-        RecordVersions store = new RecordVersions();
-        Model model = new Model();
-        List<String> done = new ArrayList<>();
-        List<Integer> begun = new ArrayList<>();
-        Map<Integer, String> latest = new HashMap<>();
-        Map<Integer, Map<Integer, String>> open = new HashMap<>();
-        for (int i = 0; i < 220; i++) {
-            String call = lot(random, begun, seed % 4);
-            String got = Script.answer(store, call);
-            String want = model.answer(call);
-            done.add(call);
-            if (!got.equals(want)) {
-                Script.due(call + " is " + want + " and not " + got + " after " + done, false);
-                return false;
-            }
-            if (call.equals("begin") && !got.equals("-9") && !got.equals("IllegalState")) {
-                begun.add(Integer.parseInt(got));
-            }
-            if (i % LOOK_EVERY == 0 && !sameLooks(store, model, done)
-                    || !nothingLost(store, call, got, latest, open, done)) {
-                return false;
-            }
-        }
-        return true;
-    }
-
-    /** What the store is for: after any call, and any crash, the image is what was committed, no more and no less. */
-    private static boolean nothingLost(RecordVersions store, String call, String got, Map<Integer, String> latest,
-            Map<Integer, Map<Integer, String>> open, List<String> done) {
-        String[] w = call.split(" ");
-        if ((w[0].equals("write") || w[0].equals("erase")) && got.equals("1")) {
-            open.computeIfAbsent(Integer.parseInt(w[1]), t -> new HashMap<>())
-                    .put(Integer.parseInt(w[2]), w[0].equals("erase") ? "NoSuchElement" : w[3]);
-        }
-        if (w[0].equals("commit") && !got.equals("-9") && !got.equals("IllegalState")) {
-            latest.putAll(open.getOrDefault(Integer.parseInt(w[1]), Map.of()));
-        }
-        for (int r = 0; r < 6; r++) {
-            String want = latest.getOrDefault(r, "NoSuchElement");
-            if (!Script.answer(store, "image " + r).equals(want)) {
-                Script.due("image " + r + " is " + want + " after " + done, false);
+        Run run = new Run();
+        for (int i = 0; i < CALLS; i++) {
+            boolean good = run.call(lot(random, run.begun, seed % 4));
+            if (!good || i % LOOK_EVERY == 0 && !run.looksTheSame()) {
                 return false;
             }
         }

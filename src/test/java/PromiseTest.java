@@ -29,24 +29,9 @@ public final class PromiseTest {
         Script.end();
     }
 
-    /** Repeats a line for the numbers from .. to, which stand in it as #. */
-    private static String each(int from, int to, String line) {
-        StringBuilder lines = new StringBuilder();
-        for (int i = from; i <= to; i++) {
-            lines.append(i == from ? "" : ";").append(line.replace("#", Integer.toString(i)));
-        }
-        return lines.toString();
-    }
-
-    private static String[] join(String[] lines, String... more) {
-        String[] all = Arrays.copyOf(lines, lines.length + more.length);
-        System.arraycopy(more, 0, all, lines.length, more.length);
-        return all;
-    }
-
     private static void newObject() {
-        Script.run("promise 1", each(1, 40, "state # = 0"), each(0, 5, "version # 0 0 = NoSuchElement"),
-                each(0, 5, "image # = NoSuchElement"), each(0, 6, "page # = 0"), each(10, 16, "page # = 0"),
+        Script.run("promise 1", Script.each(1, 40, "state # = 0"), Script.each(0, 5, "version # 0 0 = NoSuchElement"),
+                Script.each(0, 5, "image # = NoSuchElement"), Script.each(0, 6, "page # = 0"), Script.each(10, 16, "page # = 0"),
                 "count 0 = 9; count 1 = 0; count 2 = 0; count 3 = 0; count 4 = 0",
                 "sweep = 0; flush = 0; fail 0 = 0; crash = 0; begin = 1");
         Script.due("CRASHED is -9", RecordVersions.CRASHED == -9);
@@ -59,9 +44,9 @@ public final class PromiseTest {
         Script.run("promise 2: the least unused number, written at once",
                 "begin = 1; state 1 = 1; count 1 = 1; count 2 = 1; count 4 = 0; page 16 = 0",
                 "rollback 1 = 1; page 16 = 1; begin = 2; page 16 = 0; crash = 1; state 1 = 3; state 2 = 3; begin = 3");
-        Script.run("promise 2: four at most", each(1, 4, "begin = #"), "begin = IllegalState; count 2 = 4",
+        Script.run("promise 2: four at most", Script.each(1, 4, "begin = #"), "begin = IllegalState; count 2 = 4",
                 "state 5 = 0; commit 2 = 1; begin = 5; begin = IllegalState; rollback 1 = 1; begin = 6");
-        Script.run("promise 2: forty numbers", each(1, 40, "begin = #; rollback # = 1"), "begin = IllegalState",
+        Script.run("promise 2: forty numbers", Script.each(1, 40, "begin = #; rollback # = 1"), "begin = IllegalState",
                 "crash = 0; begin = IllegalState; state 40 = 3");
         Script.run("promise 2: a failure", "fail 1 = 0; begin = -9; state 1 = 0; count 1 = 0; count 2 = 0; count 3 = 1",
                 "page 16 = 0; fail 0 = 0; begin = 1; write 1 0 7 = 1; read 1 0 = 7");
@@ -114,7 +99,7 @@ public final class PromiseTest {
                 "count 0 = 8; version 2 0 1 = 8; version 2 1 1 = 6; commit 2 = 3; count 4 = 0; page 1 = 0");
         Script.run("terms: the value is new even if it is the same", "begin = 1; write 1 0 5 = 1; flush = 1",
                 "page 10 = 0; write 1 0 5 = 1; page 10 = 1; commit 1 = 2");
-        Script.run("terms: the least free slot", "begin = 1", each(0, 5, "write 1 # 1 = 1"), "commit 1 = 4; begin = 2",
+        Script.run("terms: the least free slot", "begin = 1", Script.each(0, 5, "write 1 # 1 = 1"), "commit 1 = 4; begin = 2",
                 "write 2 5 2 = 1; write 2 3 2 = 1; write 2 1 2 = 1; write 2 0 2 = 1; version 5 1 2 = 0",
                 "version 3 1 2 = 1; version 1 1 2 = 2; version 0 1 2 = 3; page 0 = 24; page 1 = 8; page 2 = 8",
                 "rollback 2 = 1; begin = 3; write 3 1 3 = 1; version 1 1 2 = 2; write 3 3 3 = 1; version 3 1 2 = 1",
@@ -135,7 +120,7 @@ public final class PromiseTest {
                 "page 3 = 1; flush = 3; commit 2 = 1");
         // Slot 3 becomes free by cleaning, but the change goes to slot 0, which is on another page.
         Script.run("terms: a page that is cleaned is not one that the transaction changed", "begin = 1",
-                each(0, 3, "write 1 # 1 = 1"), "commit 1 = 3; begin = 2", each(1, 3, "write 2 # 2 = 1"), "commit 2 = 4",
+                Script.each(0, 3, "write 1 # 1 = 1"), "commit 1 = 3; begin = 2", Script.each(1, 3, "write 2 # 2 = 1"), "commit 2 = 4",
                 "begin = 3; write 3 0 3 = 1; version 0 1 2 = 3; sweep = 3; flush = 4; rollback 3 = 1; begin = 4",
                 "write 4 0 4 = 1; version 0 1 2 = 0; page 14 = 1; page 4 = 1; commit 4 = 3; page 14 = 1; flush = 1");
         Script.run("terms: a failure in cleaning", "begin = 1; write 1 0 1 = 1; commit 1 = 2; begin = 2; write 2 0 2 = 1",
@@ -146,12 +131,12 @@ public final class PromiseTest {
 
     private static final String[] FULL = {
         "begin = 1; write 1 0 1 = 1; write 1 1 1 = 1; commit 1 = 2",
-        each(2, 10, "begin = #; write # 0 # = 1; commit # = 3"),
+        Script.each(2, 10, "begin = #; write # 0 # = 1; commit # = 3"),
         "count 0 = 0; begin = 11"
     };
 
     private static void noRoom() {
-        Script.run("terms: no room", join(FULL, "write 11 0 3 = IndexOutOfBounds; write 11 1 3 = IndexOutOfBounds",
+        Script.run("terms: no room", Script.join(FULL, "write 11 0 3 = IndexOutOfBounds; write 11 1 3 = IndexOutOfBounds",
                 "erase 11 0 = IndexOutOfBounds; count 4 = 0; version 0 0 0 = 10; write 11 2 3 = 1; write 11 2 4 = 1",
                 "read 11 0 = 10; begin = 12; write 12 2 1 = UnsupportedOperation; erase 12 0 = IndexOutOfBounds",
                 "erase 12 2 = NoSuchElement; version 0 0 2 = -1; version 0 1 2 = 8; version 0 5 2 = 4; version 0 9 2 = 0",
@@ -205,7 +190,7 @@ public final class PromiseTest {
 
     private static void sweep() {
         String[] twice = {"begin = 1; write 1 0 1 = 1; commit 1 = 2; begin = 2; write 2 0 2 = 1; commit 2 = 3"};
-        Script.run("promise 8: nobody is active", join(twice, "sweep = 1; version 0 0 0 = 2; version 0 1 0 = NoSuchElement",
+        Script.run("promise 8: nobody is active", Script.join(twice, "sweep = 1; version 0 0 0 = 2; version 0 1 0 = NoSuchElement",
                 "count 0 = 9; page 3 = 1; page 0 = 0; page 10 = 1; page 13 = 1; count 4 = 2; sweep = 0; flush = 2",
                 "sweep = 0; count 4 = 0; image 0 = 2"));
         Script.run("promise 8: one who began before needs the older", "begin = 1; write 1 0 1 = 1; commit 1 = 2; begin = 2",
@@ -218,10 +203,10 @@ public final class PromiseTest {
                 "commit 1 = 2; begin = 2; sweep = 0; version 0 0 0 = NoSuchElement; page 10 = 1; write 2 0 3 = 1; count 0 = 9");
         Script.run("promise 8: cleaning is not counted", "begin = 1; write 1 0 1 = 1; write 1 5 1 = 1; commit 1 = 3; begin = 2",
                 "write 2 0 2 = 1; write 2 5 2 = 1; rollback 2 = 1; sweep = 0; count 0 = 9; version 0 0 0 = 1; version 5 0 0 = 1");
-        Script.run("promise 8: all records are swept", "begin = 1", each(0, 5, "write 1 # 1 = 1"), "commit 1 = 4; begin = 2",
-                each(0, 5, "write 2 # 2 = 1"), "commit 2 = 6; sweep = 6; count 0 = 9; page 3 = 3; page 4 = 6; page 5 = 0",
+        Script.run("promise 8: all records are swept", "begin = 1", Script.each(0, 5, "write 1 # 1 = 1"), "commit 1 = 4; begin = 2",
+                Script.each(0, 5, "write 2 # 2 = 1"), "commit 2 = 6; sweep = 6; count 0 = 9; page 3 = 3; page 4 = 6; page 5 = 0",
                 "flush = 5; page 3 = 0; page 4 = 0");
-        Script.run("promise 8: a full store", join(FULL, "sweep = 9; count 0 = 9; page 3 = 1; page 4 = 1; page 5 = 1",
+        Script.run("promise 8: a full store", Script.join(FULL, "sweep = 9; count 0 = 9; page 3 = 1; page 4 = 1; page 5 = 1",
                 "page 10 = 1; write 11 0 11 = 1; count 2 = 41; page 10 = 1; page 0 = 8; page 3 = 0; page 4 = 0; commit 11 = 3"));
         Script.run("promise 8: a failure", "begin = 1; write 1 0 1 = 1; commit 1 = 2; begin = 2; write 2 0 2 = 1",
                 "rollback 2 = 1; fail 1 = 0; sweep = -9; count 3 = 1; version 0 0 0 = 1; sweep = 0");
@@ -230,10 +215,10 @@ public final class PromiseTest {
     private static void sweepInChains() {
         String[] three = {"begin = 1; write 1 0 1 = 1; commit 1 = 2; begin = 2; write 2 0 2 = 1; commit 2 = 3",
             "begin = 3; write 3 0 3 = 1; flush = 2; count 4 = 0; version 0 2 2 = 0"};
-        Script.run("promise 8: behind one that is not the record's own", join(three, "sweep = 1; version 0 0 0 = 3",
+        Script.run("promise 8: behind one that is not the record's own", Script.join(three, "sweep = 1; version 0 0 0 = 3",
                 "version 0 1 0 = 2; version 0 1 2 = 1; version 0 2 0 = NoSuchElement; page 3 = 1; page 10 = 0; page 13 = 1",
                 "flush = 1; page 3 = 1; write 3 1 5 = 1; begin = 4; write 4 2 6 = 1; commit 4 = 2; page 10 = 1"));
-        Script.run("promise 8: a clean page that is noted is written to break a circle", join(three, "sweep = 1; flush = 1",
+        Script.run("promise 8: a clean page that is noted is written to break a circle", Script.join(three, "sweep = 1; flush = 1",
                 "page 3 = 1; count 4 = 0; count 2 = 11; commit 3 = 1; begin = 4; write 4 0 4 = 1; count 2 = 14; page 3 = 0",
                 "page 0 = 8; version 0 1 2 = 0; version 0 2 2 = 1; commit 4 = 3"));
         Script.run("promise 8: gone behind another stays", "begin = 1; write 1 0 1 = 1; commit 1 = 2; begin = 2; erase 2 0 = 1",
@@ -241,7 +226,7 @@ public final class PromiseTest {
                 "rollback 3 = 1; sweep = 0; version 0 0 0 = NoSuchElement; count 0 = 9");
         // The chain of record 0 lies in the slots 3, 2, 1, 0: the page of the first one is another than that of the rest.
         Script.run("promise 8: both pages are noted", "begin = 1; write 1 0 1 = 1; commit 1 = 2",
-                each(2, 4, "begin = #; write # 0 # = 1; commit # = 3"), "begin = 5; write 5 0 5 = 1; version 0 1 2 = 3",
+                Script.each(2, 4, "begin = #; write # 0 # = 1; commit # = 3"), "begin = 5; write 5 0 5 = 1; version 0 1 2 = 3",
                 "flush = 2; sweep = 3; page 3 = 17; page 4 = 0; page 13 = 1; page 14 = 1; page 10 = 0; count 0 = 8",
                 "version 0 1 0 = 4; version 0 2 0 = NoSuchElement; flush = 2; page 3 = 1");
     }
@@ -257,24 +242,24 @@ public final class PromiseTest {
 
     private static void order() {
         String[] change = {"begin = 1; write 1 0 1 = 1; commit 1 = 2; begin = 2; write 2 0 2 = 1"};
-        Script.run("terms: the earlier page goes first", join(change, "fail 2 = 0; flush = -9; count 0 = 8; version 0 0 0 = 1",
+        Script.run("terms: the earlier page goes first", Script.join(change, "fail 2 = 0; flush = -9; count 0 = 8; version 0 0 0 = 1",
                 "version 0 1 0 = NoSuchElement; count 2 = 5; sweep = 0; count 0 = 8"));
-        Script.run("terms: of the earlier pages the lower goes first", "begin = 1", each(0, 5, "write 1 # 1 = 1"),
+        Script.run("terms: of the earlier pages the lower goes first", "begin = 1", Script.each(0, 5, "write 1 # 1 = 1"),
                 "commit 1 = 4; begin = 2; write 2 2 2 = 1; write 2 3 2 = 1; write 2 0 2 = 1; write 2 1 2 = 1; page 0 = 24",
                 "page 1 = 8; fail 2 = 0; commit 2 = -9; count 0 = 6; version 0 0 0 = 1; version 2 0 0 = 1");
-        Script.run("terms: one page after the other", "begin = 1", each(0, 5, "write 1 # 1 = 1"),
+        Script.run("terms: one page after the other", "begin = 1", Script.each(0, 5, "write 1 # 1 = 1"),
                 "commit 1 = 4; begin = 2; write 2 2 2 = 1; write 2 3 2 = 1; write 2 4 2 = 1; write 2 0 2 = 1; page 0 = 16",
                 "write 2 1 2 = 1; page 0 = 16; page 2 = 8; page 1 = 8; fail 3 = 0; commit 2 = -9",
                 "version 0 0 0 = 2; version 0 1 2 = 3; version 2 0 0 = 1; count 0 = 7");
-        Script.run("terms: a note that would close a circle writes first", join(change, "page 0 = 8; rollback 2 = 1",
+        Script.run("terms: a note that would close a circle writes first", Script.join(change, "page 0 = 8; rollback 2 = 1",
                 "count 2 = 4; begin = 3; count 2 = 5; write 3 0 3 = 1; count 2 = 7; page 0 = 8; page 3 = 0; page 10 = 1",
                 "page 13 = 1; version 0 1 2 = 0; version 0 1 0 = 1; crash = 1; version 0 0 0 = 1; count 0 = 8"));
         // 0 before 3 (swept), 3 before 1 (record 2 uses slot 0): 1 must wait for 0 by way of 3.
         String[] way = {"begin = 1; write 1 0 1 = 1; write 1 2 1 = 1; commit 1 = 3; begin = 2; write 2 0 2 = 1; commit 2 = 3",
             "sweep = 1; page 3 = 1; begin = 3; write 3 2 3 = 1; page 1 = 8; page 3 = 1; count 2 = 9"};
-        Script.run("terms: by way of others", join(way, "commit 3 = 4; page 1 = 0; page 3 = 0; count 4 = 0; image 2 = 3"));
+        Script.run("terms: by way of others", Script.join(way, "commit 3 = 4; page 1 = 0; page 3 = 0; count 4 = 0; image 2 = 3"));
         for (int k = 1; k <= 4; k++) {
-            Script.run("terms: by way of others, failure " + k, join(way, "fail " + k + " = 0; commit 3 = -9",
+            Script.run("terms: by way of others, failure " + k, Script.join(way, "fail " + k + " = 0; commit 3 = -9",
                     "image 0 = 2; image 2 = 1; count 0 = 8; version 0 1 0 = " + (k == 1 ? 1 : "NoSuchElement"),
                     "version 2 0 0 = " + (k <= 3 ? 1 : 3)));
         }
@@ -287,7 +272,7 @@ public final class PromiseTest {
         Script.run("promise 10: what is left", "fail 5 = 0; begin = 1; write 1 0 1 = 1; fail 5 = 4; flush = 1; commit 1 = 1",
                 "fail 2 = 3; begin = 2; begin = -9; count 3 = 1; fail 7 = 0; crash = 0; fail 0 = 7; begin = 3");
         Script.run("promise 10: one failure is one crash", "fail 1 = 0; begin = -9; begin = 1; write 1 0 1 = 1; commit 1 = 2");
-        Script.run("promise 10: the fiftieth", "fail 50 = 0", each(1, 24, "begin = #; commit # = 1"), "begin = 25; count 2 = 49",
+        Script.run("promise 10: the fiftieth", "fail 50 = 0", Script.each(1, 24, "begin = #; commit # = 1"), "begin = 25; count 2 = 49",
                 "commit 25 = -9; count 2 = 49; state 25 = 3; state 24 = 2; begin = 26; commit 26 = 1");
     }
 
@@ -346,7 +331,7 @@ public final class PromiseTest {
                 "begin = 4; write 4 0 0 = 1; image 0 = NoSuchElement; commit 4 = 2; image 0 = 0; count 3 = 0",
                 "image 2147483647 = IllegalArgument; image -2147483648 = IllegalArgument");
         Script.run("promise 12: with no number left", "begin = 1; write 1 0 7 = 1; commit 1 = 2",
-                each(2, 40, "begin = #; rollback # = 1"), "image 0 = 7; image 1 = NoSuchElement");
+                Script.each(2, 40, "begin = #; rollback # = 1"), "image 0 = 7; image 1 = NoSuchElement");
     }
 
     private static void state() {
@@ -366,7 +351,7 @@ public final class PromiseTest {
     }
 
     private static void page() {
-        Script.run("promise 15", each(7, 9, "page # = IllegalArgument"), "page -1 = IllegalArgument; page 17 = IllegalArgument",
+        Script.run("promise 15", Script.each(7, 9, "page # = IllegalArgument"), "page -1 = IllegalArgument; page 17 = IllegalArgument",
                 "page 2147483647 = IllegalArgument; page -2147483648 = IllegalArgument; begin = 1; write 1 5 1 = 1; page 12 = 1",
                 "page 2 = 0; commit 1 = 2; page 12 = 0; begin = 2; write 2 5 2 = 1; page 2 = 8; page 12 = 1; page 13 = 1",
                 "page 3 = 0; rollback 2 = 1; page 16 = 1; page 6 = 0");

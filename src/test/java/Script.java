@@ -1,3 +1,6 @@
+import java.util.ArrayList;
+import java.util.Arrays;
+import java.util.List;
 import java.util.NoSuchElementException;
 
 /**
@@ -6,20 +9,29 @@ import java.util.NoSuchElementException;
  * rows. What is not as due is printed.
  */
 final class Script {
+    /** What an object answers after more calls than this is free, so that no test may ask for it. */
+    static final int MOST_CALLS = 512;
+
+    /** Every call that only looks, so that two objects can be compared. */
+    static final List<String> LOOKS = looks();
+
     private static int wrong = 0;
     private static int rows = 0;
 
     private Script() {
     }
 
-    static void run(String name, String... lines) {
+    /** Makes a new object, runs the rows on it, and gives it back for more. */
+    static RecordVersions run(String name, String... lines) {
         RecordVersions store = new RecordVersions();
         StringBuilder before = new StringBuilder();
+        int calls = 0;
         for (String line : lines) {
             for (String row : line.split(";")) {
                 String[] sides = row.trim().split(" = ");
                 String got = answer(store, sides[0].trim());
                 rows++;
+                calls++;
                 if (!got.equals(sides[1].trim())) {
                     wrong++;
                     System.out.println(name + ": " + row.trim() + ", but it was " + got + ", after:" + before);
@@ -27,6 +39,69 @@ final class Script {
                 before.append(' ').append(row.trim()).append(';');
             }
         }
+        due(name + ": asks for more calls than an object is good for", calls <= MOST_CALLS);
+        return store;
+    }
+
+    /**
+     * A call is refused, and changes nothing: an object that had the call and one that had it not answer the same
+     * from then on, not only to what looks at them but also to what goes on from what cannot be looked at.
+     */
+    static void refused(String name, String[] before, String call, String exception) {
+        RecordVersions with = run(name, join(before, call + " = " + exception));
+        RecordVersions without = run(name, before);
+        List<String> trail = new ArrayList<>(LOOKS);
+        trail.add("fail 0");
+        for (int transaction = 1; transaction <= 12; transaction++) {
+            trail.add("read " + transaction + " 0");
+            trail.add("read " + transaction + " 2");
+            trail.add("commit " + transaction);
+        }
+        trail.addAll(List.of("begin", "sweep", "flush", "count 0", "count 2", "crash", "begin", "image 0", "image 2"));
+        for (String next : trail) {
+            String got = answer(with, next);
+            String want = answer(without, next);
+            due(name + ": after " + call + " in " + Arrays.toString(before) + ", " + next + " is " + got + " and not " + want,
+                    got.equals(want));
+        }
+    }
+
+    private static List<String> looks() {
+        List<String> looks = new ArrayList<>();
+        for (int record = 0; record < 6; record++) {
+            looks.add("image " + record);
+            for (int k = 0; k < 5; k++) {
+                for (int what = 0; what < 3; what++) {
+                    looks.add("version " + record + " " + k + " " + what);
+                }
+            }
+        }
+        for (int page = 0; page < 7; page++) {
+            looks.add("page " + page);
+            looks.add("page " + (10 + page));
+        }
+        for (int what = 0; what < 5; what++) {
+            looks.add("count " + what);
+        }
+        for (int transaction = 1; transaction <= 40; transaction++) {
+            looks.add("state " + transaction);
+        }
+        return looks;
+    }
+
+    /** Repeats a line for the numbers from .. to, which stand in it as #. */
+    static String each(int from, int to, String line) {
+        StringBuilder lines = new StringBuilder();
+        for (int i = from; i <= to; i++) {
+            lines.append(i == from ? "" : ";").append(line.replace("#", Integer.toString(i)));
+        }
+        return lines.toString();
+    }
+
+    static String[] join(String[] lines, String... more) {
+        String[] all = Arrays.copyOf(lines, lines.length + more.length);
+        System.arraycopy(more, 0, all, lines.length, more.length);
+        return all;
     }
 
     static void due(String what, boolean holds) {
