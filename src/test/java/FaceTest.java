@@ -4,7 +4,6 @@ import java.lang.reflect.Method;
 import java.lang.reflect.Modifier;
 import java.util.Arrays;
 import java.util.Set;
-import java.util.TreeSet;
 import java.util.stream.Collectors;
 
 /** The public face of the class, and those rules of LANGUAGE.md that can be seen from outside. */
@@ -33,7 +32,7 @@ public final class FaceTest {
             text("count", 1, ARGUMENT));
 
     private static String text(String name, int arguments, String... exceptions) {
-        return name + "/" + arguments + " throws " + new TreeSet<>(Arrays.asList(exceptions));
+        return name + "/" + arguments + " throws " + Arrays.asList(exceptions);
     }
 
     private static String text(Method method) {
